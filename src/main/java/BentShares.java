@@ -234,7 +234,7 @@ public final class BentShares {
                 shares[i] += lines[line].number(i / EACH, k) * polynomial[i % EACH];
             }
         }
-        return Plain.lower(shares) ? settle(line) : NOT;
+        return Plain.lowerNumbers(shares) ? settle(line) : NOT;
     }
 
     public int move(int line, int a, int b, int c, int d, int e, int f) {
@@ -252,7 +252,7 @@ public final class BentShares {
             shares[EACH + k] = lines[line].combined(c, d, f, k);
             shares[2 * EACH + k] = lines[line].number(SHARE_W, k);
         }
-        return Plain.lower(shares) ? settle(line) : NOT;
+        return Plain.lowerNumbers(shares) ? settle(line) : NOT;
     }
 
     public int copy(int line, int to) {
@@ -638,20 +638,23 @@ public final class BentShares {
             if (topOfW(shares) < 0) {
                 return false;
             }
-            findDivisor(shares);
-            if (Whole.last(high) > 0) {
-                for (int from = 0; from < ALL; from += EACH) {
-                    divide(shares, from);
-                }
+            Arrays.fill(high, 0);
+            for (int from = 0; from < ALL; from += EACH) {
+                System.arraycopy(shares, from, low, 0, EACH);
+                Whole.takeOffDivisor(low);
+                findDivisor();
             }
-            return lower(shares);
+            for (int from = 0; from < ALL; from += EACH) {
+                divide(shares, from);
+            }
+            return lowerNumbers(shares);
         }
 
         /**
          * As make(), for shares that no polynomial divides. Telling a PLAIN LINE anew or moving it
          * keeps it so: both can be undone, and a common root would be one before, too.
          */
-        static boolean lower(long[] shares) {
+        static boolean lowerNumbers(long[] shares) {
             int top = topOfW(shares);
             if (top < 0) {
                 return false;
@@ -666,22 +669,13 @@ public final class BentShares {
             return last < ALL - EACH ? -1 : last;
         }
 
-        private void findDivisor(long[] shares) {
-            Arrays.fill(high, 0);
-            for (int from = 0; from < ALL; from += EACH) {
-                System.arraycopy(shares, from, low, 0, EACH);
-                Whole.takeOffDivisor(low);
-                findDivisorOfTwo();
-            }
-        }
-
         /** Euclid's way; the common divisors of numbers are taken off at each step, so longs hold them. */
-        private void findDivisorOfTwo() {
+        private void findDivisor() {
             for (int step = 0; step < STEPS; step++) {
                 if (Whole.last(high) < Whole.last(low)) {
-                    long[] lower = high;
+                    long[] swapped = high;
                     high = low;
-                    low = lower;
+                    low = swapped;
                 }
                 int top = Whole.last(low);
                 if (top < 0) {
