@@ -98,11 +98,8 @@ public final class BentShares {
         }
         long over = lines[line].value(which, above, below);
         long under = lines[line].value(SHARE_W, above, below);
-        if (under == 0) {
-            return NONE - TRILLION;
-        }
         long divisor = Whole.divisor(over, under);
-        if (divisor == 0) {
+        if (under == 0 || divisor == 0) {
             return NONE - TRILLION;
         }
         long lowest = (part == 0 ? over : under) / divisor;
@@ -216,8 +213,8 @@ public final class BentShares {
     // ---- 3 anew
 
     public int anew(int line, int a, int b, int c, int d) {
-        boolean told = within(a, -5, 5) && within(b, -5, 5) && within(c, -5, 5) && within(d, -5, 5);
-        if (!told || a * d == b * c) {
+        boolean fit = within(a, -5, 5) && within(b, -5, 5) && within(c, -5, 5) && within(d, -5, 5);
+        if (!fit || a * d == b * c) {
             return BAD;
         }
         int refusal = missing(line);
@@ -238,9 +235,9 @@ public final class BentShares {
     }
 
     public int move(int line, int a, int b, int c, int d, int e, int f) {
-        boolean told = within(a, -9, 9) && within(b, -9, 9) && within(c, -9, 9) && within(d, -9, 9)
+        boolean fit = within(a, -9, 9) && within(b, -9, 9) && within(c, -9, 9) && within(d, -9, 9)
             && within(e, -9, 9) && within(f, -9, 9);
-        if (!told || a * d == b * c) {
+        if (!fit || a * d == b * c) {
             return BAD;
         }
         int refusal = missing(line);

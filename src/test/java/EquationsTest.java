@@ -33,6 +33,15 @@ public final class EquationsTest {
         obeys(due, "1;t;3", 0, 0, 0, 0, 0, 0, 0, 3, 0, -1);
         obeys(due, "t2;1-t2;2t2+3", 0, 0, 0, 0, 0, 0, 0, 5, 3, -1);
         obeys(due, "t3;2t3;1", 0, 0, 0, 0, 0, 0, 0, 2, -1, 0);
+        // the numbers of t to the power 1 are of no help here
+        obeys(due, "t2;1;1", 0, 0, 0, 0, 0, 0, 0, 0, 1, -1);
+        obeys(due, "2;t2;3", 0, 0, 0, 0, 0, 0, 0, 3, 0, -2);
+        obeys(due, "t3;2;3", 0, 0, 0, 0, 0, 0, 0, 0, 3, -2);
+        obeys(due, "1;t3;1", 0, 0, 0, 0, 0, 0, 0, 1, 0, -1);
+        obeys(due, "t3+1;t3;2t3+2", 0, 0, 0, 0, 0, 0, 0, 2, 0, -1);
+        obeys(due, "1+t;2+2t+t2;3+3t", 0, 0, 0, 0, 0, 0, 0, 3, 0, -1);
+        obeys(due, "1+t+t2;2+2t+2t2-t3;1+t+t2", 0, 0, 0, 0, 0, 0, 0, 1, 0, -1);
+        obeys(due, "1+t+t3;2;1", 0, 0, 0, 0, 0, 0, 0, 0, 1, -2);
         obeys(due, "t;t2;1", 0, 0, 0, 0, 1, 0, 0, 0, -1, 0);
         obeys(due, "t2;t;1", 0, 0, 0, 0, 0, 0, 1, -1, 0, 0);
         obeys(due, "1;t2;t", 0, 0, 0, 0, 0, 1, 0, 0, 0, -1);
@@ -111,6 +120,10 @@ public final class EquationsTest {
         due.is("nothing", x.lies(0, 0, 0, 1), BentShares.NOT);
         due.is("BAD is ahead of NOT", x.lies(0, 0, 0, 0), BentShares.BAD);
         due.is("-20 and 20", x.lies(1, -20, 20, 20), 0);
+        due.is("20 and -20", x.lies(2, 20, -20, 1), 0);
+        Due.line(x, 0, "t;t;1");
+        due.is("(20, 20)", x.lies(0, 20, 20, 20), 1);
+        due.is("(-20, -20)", x.lies(0, -20, -20, 1), 1);
     }
 
     private static void law(Due due) {
@@ -201,6 +214,12 @@ public final class EquationsTest {
         due.is("STRAIGHT, all, by 10", x.meets(3, 20, -10, 0), BentShares.NONE);
         due.is("STRAIGHT, once", x.meets(3, 1, 1, -3), 1);
         due.is("STRAIGHT, beside", x.meets(3, -2, 1, 1), 0);
+        for (int edge : new int[] {-20, 20}) {
+            due.is("a " + edge, x.meets(1, edge, 0, 0), 2);
+            due.is("b " + edge, x.meets(1, 0, edge, 0), 1);
+            due.is("c " + edge, x.meets(1, 1, 1, edge), 0);
+        }
+        meetsRoots(due);
         int[][] wrong = {{-1, 1, 1, 1}, {4, 1, 1, 1}, {0, -21, 1, 1}, {0, 21, 1, 1}, {0, 1, -21, 1}, {0, 1, 21, 1},
             {0, 1, 1, -21}, {0, 1, 1, 21}, {0, 0, 0, 1}, {0, 0, 0, 0}};
         for (int[] w : wrong) {
@@ -210,6 +229,20 @@ public final class EquationsTest {
         due.is("nothing", x.meets(0, 1, 1, 1), BentShares.NOT);
         due.is("BAD is ahead of NOT", x.meets(0, 0, 0, 1), BentShares.BAD);
         due.is("W 0 there: still a root", Due.with("t;1;t2-1").meets(0, 1, -1, 0), 1);
+    }
+
+    /** X's roots: they are what x 0 meets. */
+    private static void meetsRoots(Due due) {
+        Object[][] rows = {{"t3-3t2+3t-1", 1}, {"t3+3t2+3t+1", 1}, {"8t3", 1}, {"t3+2t2+t", 2}, {"t3-t2-t+1", 2},
+            {"t3-2t2-t+2", 3}, {"t3-4t2+5t-2", 2}, {"t3-5t2+8t-4", 2}, {"9t3+3t2-5t+1", 2}, {"9t3+3t2-5t+2", 1},
+            {"9t3+3t2-6t+1", 3}, {"4t3-3t+1", 2}, {"4t3-3t+2", 1}, {"4t3-3t", 3}, {"-t3+t2", 2}, {"-t3+t2-1", 1},
+            {"t3+t2+t+1", 1}, {"t2+t+1", 0}, {"t2+2t+1", 1}, {"9t2-6t+1", 1}, {"t2+3t+2", 2}, {"-t2+1", 2},
+            {"4t2+5t+2", 0}, {"2t2+5t+3", 2}, {"t", 1}, {"9-t", 1}, {"5", 0}};
+        for (Object[] row : rows) {
+            BentShares x = Due.with(row[0] + ";t3+7t2+9;1");
+            due.is("roots of " + row[0], x.meets(0, 1, 0, 0), (Integer) row[1]);
+            due.is("roots of " + row[0] + ", turned", x.meets(0, -7, 0, 0), (Integer) row[1]);
+        }
     }
 
     private static void touch(Due due) {
@@ -256,6 +289,10 @@ public final class EquationsTest {
         BentShares points = Due.with("6;-4;2", "3;-2;1", "3;2;1", "3t;1;1");
         due.is("POINTS, the same", points.same(0, 1), 1);
         due.is("POINTS, others", points.same(0, 2), 0);
+        due.is("POINTS, others in x alone", Due.with("1;2;3", "2;2;3").same(0, 1), 0);
+        due.is("POINTS, others in W alone", Due.with("1;2;3", "1;2;4").same(0, 1), 0);
+        due.is("others in xxx alone", Due.with("t;t3;1", "t;2t3;1").same(0, 1), 0);
+        due.is("others in 1 alone", Due.with("t;t3;1", "t;t3+1;1").same(0, 1), 0);
         due.is("a POINT and STRAIGHT", points.same(0, 3), 0);
         due.is("STRAIGHT and a POINT", points.same(3, 0), 0);
         Due.line(points, 0, "3t+1;1;1");

@@ -245,6 +245,8 @@ public final class LinesTest {
         due.rows("circle at 10/20", Due.place(x, 0, 10, 20), 3, 5, 4, 5);
         due.rows("circle at -20", Due.place(x, 0, -20, 1), -399, 401, -40, 401);
         due.rows("circle at 19/20", Due.place(x, 0, 19, 20), 39, 761, 760, 761);
+        due.rows("circle at 20", Due.place(x, 0, 20, 1), -399, 401, 40, 401);
+        due.rows("circle at -1/20", Due.place(x, 0, -1, 20), 399, 401, -40, 401);
         due.rows("W is 0", Due.place(x, 1, 1, 1), -4 - T, -4 - T, -4 - T, -4 - T);
         due.rows("W is 0 at -3/3", Due.place(x, 1, -3, 3), -4 - T, -4 - T, -4 - T, -4 - T);
         due.rows("W is below 0", Due.place(x, 1, 1, 2), -2, 3, -4, 3);

@@ -130,6 +130,10 @@ public final class SheetsTest {
         due.rows("a wide divisor of degree 2", Due.told(x, 0), -4, -3, 0, 0, 9, -1, 0, 0, -5, 2, 0, 0);
         fill(x, 0, 1, 0, 404, 23, -166, 33, -909, 731, -169, 11, 505, -552, 196, -22);
         due.is("one number beside it", x.terms(0, 0, 1, 0), BentShares.NOT);
+        // 59 t + 53 times 8 - 7 t + 9 t2, times -9 + 8 t + 7 t2, times 3 + t2
+        fill(x, 0, 1, 0, 424, 101, 64, 531, -477, -107, 843, 413, 159, 177, 53, 59);
+        due.is("a divisor behind wide rests", x.terms(0, 0, 1, 0), 2);
+        due.rows("a divisor behind wide rests", Due.told(x, 0), 8, -7, 9, 0, -9, 8, 7, 0, 3, 0, 1, 0);
         fill(x, 0, 1, 0, 997, -991, 983, -977, 971, -967, 953, -947, 941, -937, 929, -919);
         due.is("nothing in common", x.terms(0, 0, 1, 0), BentShares.NOT);
     }
