@@ -231,7 +231,8 @@ final class Model {
                 sign = -1;
             } else if (state == 'T' && (c == '2' || c == '3')) {
                 state = c;
-            } else if ("MT23".indexOf(state) >= 0 && (c == '+' || c == '-' || (c == ';' && which < 2) || (c == END && which == 2))) {
+            } else if ("MT23".indexOf(state) >= 0
+                && (c == '+' || c == '-' || (c == ';' && which < 2) || (c == END && which == 2))) {
                 sums[which]["MT23".indexOf(state)] += sign * number;
                 sign = c == '-' ? -1 : 1;
                 state = c == ';' ? 'A' : 'S';
