@@ -5,9 +5,15 @@ final class Due {
     private final String test;
     private int asked;
     private int wrong;
+    private String sentence = "";
 
     Due(String test) {
         this.test = test;
+    }
+
+    /** What follows tests this sentence of the document. */
+    void sentence(String words) {
+        sentence = " \"" + words + "\"";
     }
 
     void is(String call, long got, long due) {
@@ -15,7 +21,7 @@ final class Due {
         if (got != due) {
             wrong++;
             if (wrong <= 50) {
-                System.out.println(test + ": " + call + " answered " + got + ", due is " + due);
+                System.out.println(test + sentence + ": " + call + " answered " + got + ", due is " + due);
             }
         }
     }
@@ -54,6 +60,15 @@ final class Due {
     static int line(BentShares x, int line, String text) {
         put(x, text);
         return x.line(line);
+    }
+
+    /** Makes a LINE of twelve numbers, by way of SHEET 3. */
+    static int terms(BentShares x, int line, long... numbers) {
+        x.sheet(3, 1, 12);
+        for (int i = 0; i < numbers.length; i++) {
+            x.item(3, 1, i, (int) numbers[i]);
+        }
+        return x.terms(line, 3, 1, 0);
     }
 
     static BentShares with(String... texts) {
