@@ -1,6 +1,7 @@
 /** The sentences of promises 20 to 22 that name an edge: a test for each of them. */
 public final class AnewEdgesTest {
     private static final String CUBIC = "t2-1;t3-t;1";
+    private static final String WIDE = "1-2t+3t2-4t3;5-6t+7t2-8t3;9-t+2t2+3t3";
 
     public static void main(String[] args) {
         Due due = new Due("AnewEdgesTest");
@@ -16,8 +17,9 @@ public final class AnewEdgesTest {
         due.end();
     }
 
+    /** Another LINE is told last, so that nothing of this one is at hand but the LINE itself. */
     private static void anew(Due due, String text, int[] a, long... numbers) {
-        BentShares x = Due.with(text);
+        BentShares x = Due.with(text, WIDE);
         int kind = x.kind(0);
         String call = text + " by " + java.util.Arrays.toString(a);
         due.is(call, x.anew(0, a[0], a[1], a[2], a[3]), kind);
@@ -92,7 +94,7 @@ public final class AnewEdgesTest {
     }
 
     private static void move(Due due, String text, int[] a, long... numbers) {
-        BentShares x = Due.with(text);
+        BentShares x = Due.with(text, WIDE);
         int kind = x.kind(0);
         String call = text + " by " + java.util.Arrays.toString(a);
         due.is(call, x.move(0, a[0], a[1], a[2], a[3], a[4], a[5]), kind);

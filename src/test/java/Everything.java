@@ -11,8 +11,14 @@ final class Everything {
         this.x = x;
     }
 
-    /** Of each sort one: LINES of all KINDS but one and nothing, SHEETS of all LANES and nothing, a TAPE with bytes. */
+    /** A CUBIC, a STRAIGHT one, a POINT and nothing; SHEETS of each LANE and nothing; a TAPE that is a LINE. */
     static BentShares filled() {
+        BentShares x = filledButTape();
+        Due.put(x, "t3 ;-t;2");
+        return x;
+    }
+
+    static BentShares filledButTape() {
         BentShares x = Due.with("t2-1;t3-t;1", "t2;1-t2;2t2+3", "6;-4;2", "t;t2;1");
         x.drop(3);
         x.sheet(0, 0, 20);
@@ -25,7 +31,6 @@ final class Everything {
             x.item(1, 1, i, i % 5 - 1);
             x.item(2, 2, i, 7 - i % 8);
         }
-        Due.put(x, "t3 ;-t;2");
         return x;
     }
 

@@ -1,3 +1,4 @@
+import java.util.function.Supplier;
 import java.util.function.ToLongFunction;
 
 /**
@@ -33,15 +34,24 @@ public final class RefusedTest {
         test.machineInOrder();
         test.due.sentence("NOT: it is nothing, or can't be told");
         test.cantBeTold();
+        test.due.sentence("NOT: an item is not -1000 .. 1000, W is 0, or it can't be told");
+        test.termsOfNoLine();
+        test.due.sentence("THE TAPE, which is empty then; FAULTS; NOT: W is 0, or it can't be told");
+        test.tapesOfNoLine();
         test.due.sentence("FULL -3");
         test.full();
         test.due.end();
     }
 
     private void refused(String call, long answer, ToLongFunction<BentShares> ask) {
-        BentShares x = Everything.filled();
+        refused(call, answer, ask, Everything::filled, unchanged);
+    }
+
+    private void refused(String call, long answer, ToLongFunction<BentShares> ask, Supplier<BentShares> made,
+        long[] before) {
+        BentShares x = made.get();
         due.is(call, ask.applyAsLong(x), answer);
-        due.isTrue(call + " changes nothing", java.util.Arrays.equals(Everything.of(x), unchanged));
+        due.isTrue(call + " changes nothing", java.util.Arrays.equals(Everything.of(x), before));
     }
 
     private static String text(String name, int[] numbers) {
@@ -241,6 +251,40 @@ public final class RefusedTest {
         refused("anew of a STRAIGHT one", -2, x -> x.anew(1, 5, 0, 0, 1));
         refused("move", -2, x -> x.move(0, 1, 0, 0, 1, -9, 0));
         refused("move of a POINT", -2, x -> x.move(2, 1, 0, 0, 1, 7, 0));
+    }
+
+    private void termsOfNoLine() {
+        int[][] items = {{0, 1001}, {0, -1001}, {11, 1001}, {0, 10}, {5, -10}, {11, Integer.MIN_VALUE}};
+        for (int[] item : items) {
+            Supplier<BentShares> made = () -> {
+                BentShares x = Everything.filled();
+                x.item(1, 1, item[0], item[1]);
+                return x;
+            };
+            long[] before = Everything.of(made.get());
+            for (int line = 0; line < 4; line++) {
+                int there = line;
+                refused(text("terms with item", item), -2, x -> x.terms(there, 1, 1, 0), made, before);
+            }
+        }
+    }
+
+    /** Of all that there is, only THE TAPE changes: it is empty. */
+    private void tapesOfNoLine() {
+        long[] before = Everything.of(Everything.filledButTape());
+        for (String tape : new String[] {"t;1;0", "t;1;10", "5t3-5t2-5t+5;t+1;t+1"}) {
+            for (int line = 0; line < 4; line++) {
+                int there = line;
+                refused(tape, -2, x -> Due.line(x, there, tape), Everything::filledButTape, before);
+            }
+        }
+        for (String tape : new String[] {"", "t", "t;t", "t;t;t t", "x", "100", " ".repeat(90)}) {
+            for (int line = 0; line < 4; line++) {
+                int there = line;
+                long place = tape.equals("t;t;t t") ? 6 : tape.equals("100") || tape.equals("x") ? 0 : tape.length();
+                refused(tape, -20 - place, x -> Due.line(x, there, tape), Everything::filledButTape, before);
+            }
+        }
     }
 
     /** "FULL: 90" is told of THE TAPE alone; a TAPE that is refused more bytes keeps those that it has. */
