@@ -293,7 +293,7 @@ public final class EquationsEdgesTest {
             {"9t2-7t+1", 2}, {"9t2-5t+1", 0}, {"t3", 1}, {"9t3-9t2+3t", 1}, {"t3-9t2", 2}, {"t3-9t", 3}, {"t3+9t", 1},
             {"4t3-3t-1", 2}, {"4t3-3t+1", 2}, {"4t3-3t", 3}, {"4t3-3t-2", 1}, {"8t3-6t2+t", 3}, {"8t3-7t2+2t", 1},
             {"8t3-4t2-2t+1", 2}, {"8t3-4t2-3t+1", 3}, {"8t3-4t2-t+1", 1}, {"t3-6t2+9t-4", 2}, {"t3-6t2+9t-5", 1},
-            {"t3-6t2+9t-3", 3}};
+            {"t3-6t2+9t-3", 3}, {"2t3+3t2+t", 3}, {"t2+t", 2}, {"t2+t+1", 0}};
         for (Object[] row : rows) {
             for (String beside : new String[] {";t3+7t2+9;1", ";t2;t3+5"}) {
                 BentShares x = Due.with(row[0] + beside);
